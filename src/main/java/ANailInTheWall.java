@@ -696,6 +696,7 @@ public final class ANailInTheWall {
                 drill(x);
             }
             lessenWeights();
+            addUp();
         }
 
         private int offsetsByNail(int x, boolean isWood) {
@@ -715,6 +716,7 @@ public final class ANailInTheWall {
             }
             drill(x);
             lessenWeights();
+            addUp();
         }
 
         private void lessenWeights() {
@@ -725,7 +727,6 @@ public final class ANailInTheWall {
             for (int o = 0; o < MOST_OFFSETS && by > 1; o++) {
                 weights[o] /= by;
             }
-            addUp();
         }
 
         private void drill(int x) {
@@ -850,14 +851,18 @@ public final class ANailInTheWall {
         int inch = 0;
         /** Worth, times ten times the total of the weights. */
         long gain = 0;
+        private final int[] unlike = new int[INCHES];
+        private int unlikes = 0;
         private final long[] shared = new long[INCHES];
 
         void lookWith(Wall wall, int kind) {
+            gatherUnlike(wall);
             inch = 0;
             long most = -1;
-            for (int x = 0; x < INCHES; x++) {
-                for (int y = 0; y < INCHES; y++) {
-                    shared[y] = wall.sumAtBoth(x, y);
+            for (int i = 0; i < unlikes; i++) {
+                int x = unlike[i];
+                for (int j = 0; j < unlikes; j++) {
+                    shared[j] = wall.sumAtBoth(x, unlike[j]);
                 }
                 long these = greatestThen(wall, kind, true) + greatestThen(wall, kind, false);
                 if (these > most) {
@@ -868,13 +873,28 @@ public final class ANailInTheWall {
             gain = most - 10 * wall.sums[wall.likeliest(0, INCHES)];
         }
 
-        /** The greatest sum of weights at an inch after a telling there where what is shared is. */
+        /** Inches with wood by the same offsets answer alike: the least of them stands for all. */
+        private void gatherUnlike(Wall wall) {
+            unlikes = 0;
+            for (int x = 0; x < INCHES; x++) {
+                boolean isNew = true;
+                for (int i = 0; i < unlikes && isNew; i++) {
+                    isNew = wall.woods[unlike[i]] != wall.woods[x];
+                }
+                if (isNew) {
+                    unlike[unlikes] = x;
+                    unlikes++;
+                }
+            }
+        }
+
+        /** The greatest sum of weights at an inch, each weight times the tenths of what is told. */
         private long greatestThen(Wall wall, int kind, boolean tellsWood) {
             int inWood = tenths(kind, tellsWood, true);
             int inNone = tenths(kind, tellsWood, false);
             long most = 0;
-            for (int y = 0; y < INCHES; y++) {
-                long these = inWood * shared[y] + inNone * (wall.sums[y] - shared[y]);
+            for (int j = 0; j < unlikes; j++) {
+                long these = inWood * shared[j] + inNone * (wall.sums[unlike[j]] - shared[j]);
                 most = Math.max(most, these);
             }
             return most;

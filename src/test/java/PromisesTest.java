@@ -637,6 +637,8 @@ public final class PromisesTest {
         dueWorth(4, 2, 15);
         w.nail(0, 1);
         dueWorth(4, 0, 1);
+        tell("s16,1;d00;ld;");
+        dueWorth(4, 0, 1);
         due("worth(5, 0)", w.worth(5, 0), OTHER);
         due("worth(-1, 0)", w.worth(-1, 0), OTHER);
         due("worth(0, 2)", w.worth(0, 2), OTHER);
