@@ -238,6 +238,10 @@ public final class AnswerEdgesTest {
             doorAtTheEnd(run);
             run.due(47, "from");
         });
+        CASES.promise(20, "the INCH behind the first", run -> {
+            run.wall(2, "s24,1;n01+;");
+            run.due(1, "from");
+        });
         CASES.promise(20, "of several the least", run -> {
             run.wall(2, "s24,1;n29+;");
             run.due(5, "from");
@@ -260,6 +264,22 @@ public final class AnswerEdgesTest {
             run.wall(2, "s6,1;n00-;");
             for (int kind = 0; kind < 5; kind++) {
                 run.due(1, "next", kind);
+            }
+        });
+        CASES.promise(21, "asked by one LAW and then by another", run -> {
+            run.ask("set", 3, 5);
+            run.due(0, "next", 0);
+            run.wall(2, "s24,1;ll;");
+            for (int x = 0; x < 16; x++) {
+                run.ask("nail", x, 0);
+            }
+            // From 0 to 15 nothing is to be learned, and 40 is as 16.
+            run.due(16, "next", 0);
+        });
+        CASES.promise(22, "WOOD is sure at the first INCH alone: 0 by 1", run -> {
+            run.wall(3, "s16,1;d00;ld;");
+            for (int kind = 0; kind < 5; kind++) {
+                run.dueFraction(0, 1, "worth", kind);
             }
         });
         CASES.promise(22, "WOOD is sure somewhere: 0 by 1", run -> {
@@ -305,10 +325,48 @@ public final class AnswerEdgesTest {
             run.wall(2, "s6,1;n00-;");
             run.due(0, "kind");
         });
+        oneHeavierOffset();
         CASES.promise(23, "the last by its number but for BORE", run -> {
             run.ask("telling", 0, 10, 1);
             run.ask("telling", 1, 26, 0);
             run.due(3, "kind");
+        });
+    }
+
+    /**
+     * The OFFSET 0 with a WEIGHT of W, five of 1. What a TOOL of a and b tenths adds to ten times W is b
+     * less W times (10 less a) at 0, a less W times (10 less b) elsewhere, and nothing if that is below 0.
+     */
+    private static void oneHeavierOffset() {
+        CASES.promise(23, "LAMP and EAR are worth the same by what they cost: the first, 2", run -> {
+            run.wall(2, "s6,1;t300+;");
+            run.due(2, "weight", 0);
+            run.dueFraction(2, 35, "worth", 2);
+            run.dueFraction(1, 35, "worth", 3);
+            run.due(1, "next", 2);
+            run.due(0, "next", 3);
+            run.due(2, "kind");
+        });
+        CASES.promise(23, "LAMP and BORE are worth the same by what they cost: the first, 2", run -> {
+            run.wall(2, "s6,1;t100+;");
+            run.due(4, "weight", 0);
+            run.dueFraction(1, 45, "worth", 2);
+            run.dueFraction(1, 18, "worth", 4);
+            run.due(2, "kind");
+        });
+        CASES.promise(23, "BORE alone is worth anything: the last, 4", run -> {
+            run.wall(2, "s6,1;t200+;");
+            run.due(6, "weight", 0);
+            run.dueFraction(0, 1, "worth", 2);
+            run.dueFraction(3, 110, "worth", 4);
+            run.due(0, "next", 4);
+            run.due(4, "kind");
+        });
+        CASES.promise(23, "behind a BORE in WOOD not even a BORE is: the first, 0", run -> {
+            run.wall(2, "s6,1;t400+;");
+            run.due(9, "weight", 0);
+            run.dueFraction(0, 1, "worth", 4);
+            run.due(0, "kind");
         });
     }
 
@@ -587,6 +645,14 @@ public final class AnswerEdgesTest {
                 run.due(8, "count", 8);
             });
         }
+        CASES.promise(34, "two numbers of no INCH, and eight: 0 by 1", run -> {
+            row(run, 48, 98);
+            run.dueFraction(0, 1, "happened", 0);
+            row(run, 49, 99, 48, 49, 98, 99);
+            run.dueFraction(0, 1, "happened", 0);
+            run.due(0, "old");
+            run.due(0, "judge");
+        });
         CASES.promise(34, "numbers of the last INCH", run -> {
             row(run, 97);
             run.dueFraction(7, 20, "happened", 0);

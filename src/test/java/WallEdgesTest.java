@@ -353,6 +353,15 @@ public final class WallEdgesTest {
             run.due(1, "weight", 6);
             run.due(0, "weight", 0);
         });
+        for (int other : new int[] {0, 23}) {
+            CASES.promise(8, "what divides all WEIGHTS but that of the OFFSET " + other + " divides none", run -> {
+                run.wall(1, "s24,1;");
+                run.ask("telling", 0, other, 0);
+                for (int o = 0; o < 24; o++) {
+                    run.due(o == other ? 3 : 7, "weight", o);
+                }
+            });
+        }
         CASES.promise(8, "a telling gives no WEIGHT to what has none", run -> {
             run.ask("nail", 0, 0);
             run.ask("telling", 4, 0, 1);
