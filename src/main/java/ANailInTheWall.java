@@ -160,7 +160,7 @@ public final class ANailInTheWall {
         if (chance < 0) {
             return refuse(BELOW);
         }
-        if (chance > MOST_CHANCE || now.pipes >= MOST_PIPES) {
+        if (chance > MOST_CHANCE || !now.hasRoomForPipe()) {
             return refuse(ROOM);
         }
         now.takePipe(x, chance);
@@ -738,10 +738,16 @@ public final class ANailInTheWall {
             return Long.bitCount(drilled & window);
         }
 
+        boolean hasRoomForPipe() {
+            return pipes < MOST_PIPES;
+        }
+
         void takePipe(int x, int chance) {
-            pipeInches[pipes] = x;
-            pipeChances[pipes] = chance;
-            pipes++;
+            if (hasRoomForPipe()) {
+                pipeInches[pipes] = x;
+                pipeChances[pipes] = chance;
+                pipes++;
+            }
         }
 
         int riskAt(int x) {
@@ -859,9 +865,9 @@ public final class ANailInTheWall {
             gatherUnlike(wall);
             inch = 0;
             long most = -1;
-            for (int i = 0; i < unlikes; i++) {
+            for (int i = 0; i < unlikes && i < INCHES; i++) {
                 int x = unlike[i];
-                for (int j = 0; j < unlikes; j++) {
+                for (int j = 0; j < unlikes && j < INCHES; j++) {
                     shared[j] = wall.sumAtBoth(x, unlike[j]);
                 }
                 long these = greatestThen(wall, kind, true) + greatestThen(wall, kind, false);
@@ -878,10 +884,10 @@ public final class ANailInTheWall {
             unlikes = 0;
             for (int x = 0; x < INCHES; x++) {
                 boolean isNew = true;
-                for (int i = 0; i < unlikes && isNew; i++) {
+                for (int i = 0; i < unlikes && i < INCHES && isNew; i++) {
                     isNew = wall.woods[unlike[i]] != wall.woods[x];
                 }
-                if (isNew) {
+                if (isNew && unlikes < INCHES) {
                     unlike[unlikes] = x;
                     unlikes++;
                 }
@@ -893,7 +899,7 @@ public final class ANailInTheWall {
             int inWood = tenths(kind, tellsWood, true);
             int inNone = tenths(kind, tellsWood, false);
             long most = 0;
-            for (int j = 0; j < unlikes; j++) {
+            for (int j = 0; j < unlikes && j < INCHES; j++) {
                 long these = inWood * shared[j] + inNone * (wall.sums[unlike[j]] - shared[j]);
                 most = Math.max(most, these);
             }
@@ -1099,7 +1105,7 @@ public final class ANailInTheWall {
             int x = readNumber(2);
             int chance = readNumber(1);
             skipSign();
-            if (isNoInch(x) || wall.pipes >= MOST_PIPES) {
+            if (isNoInch(x) || !wall.hasRoomForPipe()) {
                 return false;
             }
             wall.takePipe(x, chance);
